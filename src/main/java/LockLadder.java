@@ -219,7 +219,7 @@ public final class LockLadder {
         history.mark(now);
         int done = 0;
         int refused = 0;
-        for (int p = 0; p < text.size && refused == 0; p += 1 + Text.digitsOf(text.at(p))) {
+        for (int p = 0; p < text.size && refused == 0; p += 1 + Math.max(0, Text.digitsOf(text.at(p)))) {
             int sign = text.at(p);
             int two = sign == 'w' ? text.digit(p + 2) : 10 * text.digit(p + 2) + text.digit(p + 3);
             if (desk.act(sign, text.digit(p + 1), two, text.digit(p + 4), inForce) < 0) {
@@ -1133,7 +1133,7 @@ public final class LockLadder {
         }
 
         private void release(int owner, int place) {
-            state.setMode(owner, place, 0);
+            state.held[place] &= ~(15 << 4 * owner);
             due[place] |= 1 << owner;
         }
 

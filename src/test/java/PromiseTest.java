@@ -181,8 +181,8 @@ public final class PromiseTest {
         is("an empty one: none", rule(""), 0);
         is("w+h", owner(3, 5), 11);
         String[] bad = {"z", "+w", "w+", "w)", "(w", "()", "w w", "ww", "1000", "1w", "w1", "w<", "w<h<a", "w<h=a", "(w<h)<a>1", "(((((w",
-            "1+2345", "w(", "W", "-", "w*/h", "w\u00e9", "(w)(", "((w)", "(w)1"};
-        int[] at = {0, 0, 2, 1, 2, 1, 1, 1, 3, 1, 1, 2, 3, 3, 7, 4, 5, 1, 0, 1, 2, 1, 3, 4, 3};
+            "1+2345", "w(", "W", "-", "w*/h", "w\u00e9", "(w)(", "((w)", "(w)1", "(1)2"};
+        int[] at = {0, 0, 2, 1, 2, 1, 1, 1, 3, 1, 1, 2, 3, 3, 7, 4, 5, 1, 0, 1, 2, 1, 3, 4, 3, 3};
         rule("a");
         for (int i = 0; i < bad.length; i++) {
             is(bad[i], rule(bad[i]), -1 - at[i]);
@@ -661,6 +661,63 @@ public final class PromiseTest {
         x.undo();
         is("THE RULE stays", owner(0, 5), 7);
         is("THE TEXT stays", x.count(9), 4);
+        undoOfEach();
+        undoTen();
+    }
+
+    /** The state ahead of each kind of act comes back. */
+    private static void undoOfEach() {
+        begin(18);
+        twoRings();
+        x.locks(4, 29, S);
+        x.locks(4, 30, S);
+        int before = heldSum();
+        x.begins(6);
+        x.undo();
+        is("begins() undone", owner(6, 0), 0);
+        x.works(4, 3);
+        x.undo();
+        is("works() undone", owner(4, 2), 0);
+        x.locks(4, 21, X);
+        x.undo();
+        is("locks() undone", x.queue(21), 1);
+        x.unlocks(4, 30);
+        x.undo();
+        is("unlocks() undone", heldSum(), before);
+        x.ends(0);
+        x.undo();
+        is("ends() undone", heldSum(), before);
+        x.gathers(4, 7);
+        x.undo();
+        is("gathers() undone", heldSum(), before);
+        x.bulk(2);
+        x.undo();
+        is("bulk() undone", x.count(3), 5);
+        x.fells();
+        x.undo();
+        is("fells() undone", x.rings(), 15);
+        is("FALLS", x.count(6), 0);
+        day("e0b0fv2");
+        x.undo();
+        is("day() undone", heldSum(), before);
+        is("rings", x.rings(), 15);
+    }
+
+    /** The tenth one back is whole, though calls were refused and more than ten were done. */
+    private static void undoTen() {
+        begin(18);
+        x.begins(0);
+        for (int i = 0; i < 12; i++) {
+            x.works(0, 1);
+        }
+        is("refused", x.works(0, 0), -1);
+        is("refused", x.begins(0), -2);
+        is("refused", day("b0"), 0);
+        for (int i = 1; i <= 10; i++) {
+            is("undo", x.undo(), 10 - i);
+            is("WORK", owner(0, 2), 12 - i);
+        }
+        is("none", x.undo(), -1);
     }
 
     private static void holders() {
@@ -1192,6 +1249,29 @@ public final class PromiseTest {
         yearsByHand(Integer.MIN_VALUE, 40);
         yearsByHand(Integer.MAX_VALUE, 40);
         yearsByHand(12345, 40);
+        yearsOfRings();
+    }
+
+    /** All read all: who wants to write waits for all, so that rings come, and who goes is told by WORK. */
+    private static void yearsOfRings() {
+        begin(38);
+        rule("w");
+        allRead(x);
+        for (int seed = 1; seed <= 100; seed++) {
+            LockLadder y = new LockLadder();
+            y.sign('w' << 24);
+            y.end(1);
+            y.rule();
+            allRead(y);
+            yearsByHand(y, seed, 40);
+        }
+    }
+
+    private static void allRead(LockLadder y) {
+        for (int o = 0; o < 8; o++) {
+            y.begins(o);
+            y.locks(o, 0, S);
+        }
     }
 
     private static int r;
@@ -1203,7 +1283,10 @@ public final class PromiseTest {
 
     /** The same calls one by one on another object. */
     private static void yearsByHand(int seed, int n) {
-        LockLadder y = new LockLadder();
+        yearsByHand(new LockLadder(), seed, n);
+    }
+
+    private static void yearsByHand(LockLadder y, int seed, int n) {
         r = seed;
         for (int i = 0; i < n; i++) {
             int what = draw(6);
@@ -1276,6 +1359,27 @@ public final class PromiseTest {
         x.ends(1);
         is("once more", x.again(1), true);
         is("it waits", x.waits(1), 21);
+        fallsAndTurnsAgain();
+    }
+
+    private static void fallsAndTurnsAgain() {
+        begin(40);
+        twoRings();
+        x.fells();
+        x.keep(0);
+        x.begins(1);
+        x.begins(3);
+        x.locks(1, 21, S);
+        x.locks(3, 21, S);
+        is("again", x.again(0), true);
+        is("FALLS", x.count(6), 2);
+        is("WORK", owner(0, 2), 0);
+        x.begins(3);
+        x.begins(1);
+        x.locks(3, 21, S);
+        x.locks(1, 21, S);
+        is("as they came", x.queue(21), 2);
+        row(3, 1);
     }
 
     private static void count() {
