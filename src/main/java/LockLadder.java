@@ -416,11 +416,10 @@ public final class LockLadder {
         told.size = 0;
         int n = 0;
         for (int i = 0; i < OWNERS; i++) {
-            int running = trial.state.standing(RUNS);
-            if (running == 0) {
+            int owner = trial.state.firstRunning();
+            if (owner == NONE) {
                 break;
             }
-            int owner = Integer.numberOfTrailingZeros(running);
             trial.leave(owner);
             told.add(owner);
             n++;
@@ -725,6 +724,15 @@ public final class LockLadder {
                 }
             }
             return owners;
+        }
+
+        int firstRunning() {
+            for (int owner = 0; owner < OWNERS; owner++) {
+                if (stand[owner] == RUNS) {
+                    return owner;
+                }
+            }
+            return NONE;
         }
 
         /** At how many places the owner holds this mode; mode 0: holds something. */
@@ -1112,8 +1120,10 @@ public final class LockLadder {
         }
 
         void leave(int owner) {
+            int own = 15 << 4 * owner;
+            int at = state.at[owner];
             for (int place = 0; place < PLACES; place++) {
-                if (state.at[owner] == place || state.modeAt(owner, place) != 0) {
+                if ((state.held[place] & own) != 0 || place == at) {
                     release(owner, place);
                 }
             }
@@ -1122,7 +1132,7 @@ public final class LockLadder {
             state.age[owner] = 0;
             state.work[owner] = 0;
             for (int place = 0; place < PLACES; place++) {
-                if (takeDue(owner, place)) {
+                if (due[place] != 0 && takeDue(owner, place)) {
                     serve(place, 0);
                 }
             }
@@ -1207,7 +1217,7 @@ public final class LockLadder {
                 last = 4 * last + 4;
             }
             for (int p = place + 1; p < PLACES; p++) {
-                if (takeDue(owner, p)) {
+                if (due[p] != 0 && takeDue(owner, p)) {
                     serve(p, depth + 1);
                 }
             }
