@@ -1315,7 +1315,8 @@ public final class LockLadder {
 
     /** What a victim costs, as a text tells it: kept with each operator behind its things, so that no one is read twice. */
     private static final class Rule {
-        private static final int NEGATE = '~';
+        // Greater than any sign of a text (0 .. 255), so that no sign is taken for it.
+        private static final int NEGATE = 256;
 
         // Numbers as they are, letters and operators as 0 minus their sign.
         private final int[] code = new int[RULE_SIGNS];

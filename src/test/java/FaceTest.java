@@ -110,6 +110,9 @@ public final class FaceTest {
 
     private static int argument(Random random, String name) {
         if (name.equals("sign")) {
+            if (random.nextInt(4) == 0) {
+                return random.nextInt();
+            }
             int v = 0;
             for (int i = 0; i < 4; i++) {
                 v = v << 8 | SIGNS.charAt(random.nextInt(SIGNS.length()));

@@ -101,7 +101,9 @@ public final class ModelTest {
         StringBuilder text = new StringBuilder();
         int n = random.nextInt(48);
         for (int i = 0; i < n; i++) {
-            if (i % 2 == 0 && random.nextInt(8) > 0) {
+            if (random.nextInt(30) == 0) {
+                text.append((char) random.nextInt(256));
+            } else if (i % 2 == 0 && random.nextInt(8) > 0) {
                 text.append("whafiqx".charAt(random.nextInt(7)));
             } else if (i % 2 == 1 && random.nextInt(8) > 0) {
                 text.append("+-*/".charAt(random.nextInt(4)));
@@ -124,7 +126,8 @@ public final class ModelTest {
             text.append(acts[random.nextInt(acts.length)]);
         }
         if (random.nextInt(10) == 0 && text.length() > 0) {
-            text.setCharAt(random.nextInt(text.length()), "bwluegfv09 "                .charAt(random.nextInt(11)));
+            char any = (char) random.nextInt(256);
+            text.setCharAt(random.nextInt(text.length()), random.nextBoolean() ? any : "bwluegfv09 ".charAt(random.nextInt(11)));
         }
         return text.length() > 80 ? text.substring(0, random.nextBoolean() ? 80 : 78) : text.toString();
     }

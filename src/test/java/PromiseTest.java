@@ -200,6 +200,46 @@ public final class PromiseTest {
         is("none of it can be undone", x.count(7), 3);
     }
 
+    /** Each of the 256 signs behind texts that can go on: those that are told can stand there, no other can. */
+    private static void eachSignOfRules() {
+        String things = "whafiqx";
+        String digits = "0123456789";
+        String ahead = things + digits + "-(";
+        String[] texts = {"", "-", "x+", "x<", "(", "x*-", "(((", "((((", "x", "7", "12", "123", "(x", "(7", "x<x", "x=7", "(x<x", "(x)", "(7)",
+            "(x<x)", "((x<x)"};
+        String[] due = {ahead, ahead, ahead, ahead, ahead, ahead, ahead, things + digits + "-", "+-*/<>=", digits + "+-*/<>=",
+            digits + "+-*/<>=", "+-*/<>=", "+-*/<>=)", digits + "+-*/<>=)", "+-*/", digits + "+-*/", "+-*/)", "+-*/<>=", "+-*/<>=",
+            "+-*/<>=", "+-*/<>=)"};
+        for (int i = 0; i < texts.length; i++) {
+            // A sign 33 behind it can never stand: so the answer tells where the first wrong one is.
+            int p = texts[i].length();
+            for (char c = 0; c < 256; c++) {
+                boolean stands = due[i].indexOf(c) >= 0;
+                begin(4);
+                is("sign " + (int) c + " behind " + texts[i], rule(texts[i] + c + "!"), stands ? -2 - p : -1 - p);
+                begin(37);
+                is("sign " + (int) c + " behind " + texts[i], law(texts[i] + c + "!"), stands ? -101 - p : -100 - p);
+            }
+        }
+    }
+
+    private static void eachSignOfNamesAndDays() {
+        String acts = "bwluegfv";
+        for (char c = 0; c < 256; c++) {
+            begin(6);
+            is("name of sign " + (int) c, named("" + c), c == 'S' ? S : c == 'U' ? U : c == 'X' ? X : -1);
+            is("name of I and sign " + (int) c, named("I" + c), c == 'S' ? IS : c == 'X' ? IX : -1);
+            begin(17);
+            boolean act = acts.indexOf(c) >= 0;
+            boolean digit = c >= '0' && c <= '9';
+            is("day of sign " + (int) c, day(c + "!"), act ? -2 : -1);
+            is("day of b and sign " + (int) c, day("b" + c + "!"), digit ? -3 : -2);
+            is("day of l021 and sign " + (int) c, day("l021" + c + "!"), digit ? -6 : -5);
+            is("day of b0 and sign " + (int) c, day("b0" + c + "!"), act ? -4 : -3);
+            is("nothing is done", x.count(2), 0);
+        }
+    }
+
     private static void modes() {
         begin(5);
         int[][] together = {{1, 1, 1, 1, 1, 1, 1}, {1, 1, 1, 1, 1, 1, 0}, {1, 1, 1, 0, 0, 0, 0}, {1, 1, 0, 1, 0, 1, 0},
@@ -1421,6 +1461,8 @@ public final class PromiseTest {
         sign();
         end();
         rule();
+        eachSignOfRules();
+        eachSignOfNamesAndDays();
         modes();
         named();
         owner();
