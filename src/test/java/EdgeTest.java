@@ -23,6 +23,7 @@ public final class EdgeTest extends Edges {
         dayTold();
         dayRefused();
         undo();
+        undoEach();
         undoLeaves();
         holders();
         queue();
@@ -46,6 +47,7 @@ public final class EdgeTest extends Edges {
         years();
         keep();
         again();
+        againAll();
         count();
         toldRow();
         finish();
@@ -136,6 +138,18 @@ public final class EdgeTest extends Edges {
             is("the 40th, with more behind it", rule(times("w+", 19) + "w!!"), -40);
             is("a sign 0", rule("w" + (char) 0), -2);
             is("a sign 255", rule("w" + (char) 255), -2);
+        });
+        edge(4, "-1 - p: the sign at p can't stand there", () -> {
+            begun(1);
+            x.works(0, 7);
+            String[] refused = {"-", "--(-", "((((w", "1<", "1<2<", "(1<", "12", "w+w*", "(((((", "-9!", "1<2+3*-(4<5!"};
+            String[] taken = {"w", "w+1", "((((w))))", "w<8", "1<w", "(w)<8", "999-w", "w*w+w", "(w)", "w-9", "-w<1"};
+            int[] due = {7, 8, 7, 1, 1, 1, 992, 56, 7, -2, 1};
+            for (int i = 0; i < due.length; i++) {
+                is(refused[i], rule(refused[i]) < 0, !refused[i].equals("12"));
+                is(taken[i] + " is read as if that had not been", rule(taken[i]), 0);
+                is("COST by " + taken[i], x.owner(0, 5), due[i]);
+            }
         });
         edge(4, "(its end, if it ends too early;", () -> {
             is("one", rule("-"), -2);
@@ -684,11 +698,11 @@ public final class EdgeTest extends Edges {
         });
         edge(17, "nothing is done then.", () -> {
             begun(1);
-            String before = picture();
+            String before = whole();
             is("a fault behind acts", day("b1w09l0216v3x"), -13);
-            is("as it was", picture().equals(before), true);
+            is("as it was", whole().equals(before), true);
             is("too early", day("b1w09l0216v3b"), -14);
-            is("as it was", picture().equals(before), true);
+            is("as it was", whole().equals(before), true);
         });
     }
 
@@ -707,6 +721,15 @@ public final class EdgeTest extends Edges {
             }
             is("begins() is not kept", x.undo(), NONE);
             is("it runs", stands(0), 1);
+            for (int i = 1; i <= 11; i++) {
+                x.works(0, 1);
+            }
+            is("a refused one keeps none", x.works(0, 0), NONE);
+            is("a refused one keeps none", x.begins(0), -2);
+            for (int i = 9; i >= 0; i--) {
+                is("left", x.undo(), i);
+            }
+            is("the tenth one back", x.owner(0, 2), 1);
         });
         edge(18, "such as were done,", () -> {
             begun(1);
@@ -760,6 +783,65 @@ public final class EdgeTest extends Edges {
         });
     }
 
+    private interface Act {
+        int done();
+    }
+
+    /** On a desk where all eight hold or wait, the act is undone at once: all is as ahead of it. */
+    private static void undone(String name, Act act) {
+        edge(18, "is undone (all but THE RULE, THE TEXT and THE ROW is as ahead of it):", () -> {
+            eight();
+            String before = picture();
+            is(name + " was done", act.done() >= 0, true);
+            is(name + " has changed it", picture().equals(before), false);
+            is("left", x.undo(), 9);
+            is("as it was ahead of " + name, picture().equals(before), true);
+            is("how many began", x.count(2), 10);
+            x.ends(5);
+            held(7, 84, U);
+            is("the QUEUE at 21", x.queue(21), 2);
+            row(0, 6);
+        });
+    }
+
+    /** 7 waits at 84 for 5, 0 and 6 at 21 as CHANGES, 1 and 2 in a RING, 3 runs; 7 and 4 were felled, 4 is away. */
+    private static void eight() {
+        begun(8);
+        ring(6, 7);
+        x.fells();
+        x.ends(6);
+        is("begins", x.begins(7), 9);
+        is("begins", x.begins(6), 10);
+        ring(3, 4);
+        x.fells();
+        gets(0, 53, IS);
+        gets(0, 21, IX);
+        gets(3, 21, IX);
+        gets(6, 21, IX);
+        gets(5, 84, X);
+        gets(3, 37, S);
+        gets(3, 38, S);
+        x.works(7, 4);
+        ring(1, 2);
+        stuck(7, 84, U, 84);
+        stuck(0, 21, S, 21);
+        stuck(6, 21, S, 21);
+    }
+
+    private static void undoEach() {
+        undone("begins()", () -> x.begins(4));
+        undone("works()", () -> x.works(3, 9));
+        undone("locks()", () -> x.locks(3, 54, X));
+        undone("locks() that waits", () -> x.locks(3, 84, S));
+        undone("unlocks()", () -> x.unlocks(3, 21));
+        undone("ends()", () -> x.ends(6));
+        undone("ends() of one that runs", () -> x.ends(5));
+        undone("gathers()", () -> x.gathers(3, 9));
+        undone("bulk()", () -> x.bulk(2));
+        undone("fells()", () -> x.fells());
+        undone("day()", () -> day("e7b4w39l3846fv2"));
+    }
+
     private static void undoLeaves() {
         edge(18, "(all but THE RULE, THE TEXT and THE ROW is as ahead of it):", () -> {
             begun(4);
@@ -777,7 +859,7 @@ public final class EdgeTest extends Edges {
             row(SIX, 0);
             is("THE TEXT stays", x.named(), SIX);
             is("THE RULE stays", x.owner(3, 5), 7);
-            is("as ahead of it", picture().equals(before.replace("count 10", "count 9")), true);
+            is("as ahead of it", picture().equals(before), true);
             is("the QUEUE, too", x.queue(21), 2);
             row(0, 2);
             x.begins(5);
@@ -837,6 +919,12 @@ public final class EdgeTest extends Edges {
             }
             is("seven", x.queue(84), 7);
             row(6, 5, 4, 3, 2, 1, 0);
+            x.ends(6);
+            x.ends(7);
+            x.begins(7);
+            stuck(7, 84, X, 84);
+            is("one, the others run", x.queue(84), 1);
+            row(7);
             is("above", x.queue(20), 0);
             row();
         });
@@ -865,6 +953,17 @@ public final class EdgeTest extends Edges {
             stuck(4, 83, U, 0);
             is("ahead of the PLACE", x.waits(4), 0);
             row(IX, 1, 83, U);
+            anew();
+            begun(8);
+            gets(3, 84, X);
+            int[] turns = {7, 0, 6, 1, 5, 2, 4};
+            for (int i = 0; i < turns.length; i++) {
+                stuck(turns[i], 84, X, 84);
+            }
+            for (int i = 0; i < turns.length; i++) {
+                is("waits", x.waits(turns[i]), 84);
+                row(X, i, 84, X);
+            }
         });
         edge(21, "-2: it does not wait;", () -> {
             begun(1);
@@ -975,6 +1074,12 @@ public final class EdgeTest extends Edges {
             begun(2);
             is("nowhere", x.may(0, 84, X), 1);
             row(85, 4);
+            int[] places = {1, 4, 5, 20, 21};
+            int[] steps = {2, 2, 3, 3, 4};
+            for (int i = 0; i < places.length; i++) {
+                is("nowhere", x.may(0, places[i], S), 1);
+                row(85, steps[i]);
+            }
             is("THE BASE", x.may(0, 0, X), 1);
             row(85, 1);
             gets(1, 0, IS);
@@ -1038,6 +1143,13 @@ public final class EdgeTest extends Edges {
             row(0);
             is("all COVERED", x.free(2, 3, X), 0xFFFF);
             row(16);
+            is("COVERED by the TABLE ahead of it are none", x.free(2, 4, X), 0x7FFF);
+            row(15);
+            gets(1, 52, X);
+            gets(2, 10, X);
+            gets(2, 11, X);
+            is("the first and the last", x.free(2, 2, X), 0x7FFE);
+            row(14);
         });
         edge(24, "-2, NONE: as may().", () -> {
             begun(2);
@@ -1098,6 +1210,8 @@ public final class EdgeTest extends Edges {
             row(1);
             is("the last one", x.stops(0), 0);
             row(0);
+            is("the first one", x.stops(1), 1);
+            row(1);
             stuck(7, 22, S, 22);
             is("itself, too", x.stops(7), 255);
             row(1);
@@ -1172,7 +1286,7 @@ public final class EdgeTest extends Edges {
         });
     }
 
-    /** 3 waits for 0 and 4; 0 waits for 1, who waits for 3; 4 waits for 3: the shortest is the greater row. */
+    /** 3 waits for 0 and 4; 0 waits for 1, who waits for 3; 4 waits for 3: the shortest is the greater row; then the other way. */
     private static void shorterOne() {
         anew();
         begun(5);
@@ -1189,6 +1303,26 @@ public final class EdgeTest extends Edges {
         row(3, 4);
         is("the longer one", x.ring(0), 3);
         row(0, 1, 3);
+        anew();
+        begun(8);
+        gets(0, 21, S);
+        gets(4, 21, S);
+        gets(1, 22, X);
+        gets(3, 23, X);
+        stuck(4, 22, S, 22);
+        stuck(1, 23, S, 23);
+        gets(3, 24, X);
+        stuck(0, 24, S, 24);
+        stuck(3, 21, X, 21);
+        is("the shorter one is the least row", x.ring(3), 2);
+        row(3, 0);
+        is("the longer one", x.ring(4), 3);
+        row(4, 1, 3);
+        ring(6, 7);
+        is("the last two", x.ring(6), 2);
+        row(6, 7);
+        is("the last two", x.ring(7), 2);
+        row(7, 6);
     }
 
     private static void victim() {
@@ -1471,8 +1605,16 @@ public final class EdgeTest extends Edges {
             is("the one with the most", x.queues(), 2);
             row(84, 1);
             stuck(0, 83, U, 83);
-            is("CHANGES alone", x.queues(), 2);
+            is("as many: the first", x.queues(), 2);
             row(83, 2);
+            x.ends(6);
+            gets(7, 0, IS);
+            stuck(7, 0, S, 0);
+            is("three", x.queues(), 3);
+            row(83, 3);
+            stuck(5, 0, S, 0);
+            is("of as many the first", x.queues(), 3);
+            row(0, 3);
         });
     }
 
@@ -1495,6 +1637,17 @@ public final class EdgeTest extends Edges {
                 }
             }
             row(last);
+            x.begins(0);
+            gets(0, 0, IX);
+            x.sum();
+            int first = 7;
+            for (int p = 0; p <= 84; p++) {
+                for (int o = 0; o < 8; o++) {
+                    boolean above = p == 0 || p == 4 || p == 20;
+                    first = 31 * first + (o == 0 && p == 0 ? IX : o < 7 ? 0 : p == 84 ? X : above ? IX : 0);
+                }
+            }
+            row(first);
         });
     }
 
@@ -1675,7 +1828,7 @@ public final class EdgeTest extends Edges {
             x.bulk(3);
             x.works(2, 3);
             x.keep(0);
-            String before = picture().replace("count 10", "count 0");
+            String before = picture();
             rule("7");
             x.ends(2);
             x.ends(0);
@@ -1706,6 +1859,34 @@ public final class EdgeTest extends Edges {
         });
     }
 
+    /** All eight, with what each does when it runs. */
+    private static void againAll() {
+        edge(40, "It is as it was kept under a number.", () -> {
+            eight();
+            x.keep(2);
+            String before = picture();
+            x.ends(7);
+            x.begins(7);
+            x.works(7, 9);
+            gets(7, 61, X);
+            stuck(7, 37, X, 37);
+            x.ends(0);
+            x.ends(6);
+            x.begins(0);
+            x.begins(6);
+            x.fells();
+            is("FALLS", x.count(6), 3);
+            is("it is not as it was", picture().equals(before), false);
+            is("again", x.again(2), true);
+            is("as it was", picture().equals(before), true);
+            is("the QUEUE at 21", x.queue(21), 2);
+            row(0, 6);
+            x.ends(5);
+            held(7, 84, U);
+            is("begins", x.begins(4), 11);
+        });
+    }
+
     private static void count() {
         edge(41, "What 0: who runs (bits), 1: who waits (bits), 2: how many began, 3: BULK, 4: REQUESTS in all QUEUES, 5: modes that are held, 6: FALLS of all,"
             + " 7: what can be undone, 8: numbers of the ROW, 9: signs of THE TEXT.", () -> {
@@ -1725,6 +1906,23 @@ public final class EdgeTest extends Edges {
             for (int what = 0; what < 10; what++) {
                 is("count(" + what + ")", x.count(what), then[what]);
             }
+            x.ends(0);
+            x.ends(2);
+            x.begins(1);
+            x.begins(7);
+            x.begins(0);
+            ring(0, 1);
+            rule("i");
+            x.fells();
+            is("FALLS of the first, too", x.count(6), 3);
+            gets(7, 84, X);
+            stuck(6, 84, S, 84);
+            is("what the last holds, too", x.count(5), 5 + 4 + 7);
+            is("who waits", x.count(1), 64);
+            stuck(7, 27, X, 27);
+            is("who waits", x.count(1), 192);
+            is("REQUESTS", x.count(4), 2);
+            is("who runs", x.count(0), 58);
         });
         edge(41, "-100 for another what.", () -> {
             int[] others = {-1, 10, LEAST, GREATEST};

@@ -150,7 +150,12 @@ abstract class Edges {
         is("fells", x.fells(), 1);
     }
 
-    /** All that calls tell of the state, but for THE TEXT, THE ROW and what is kept. */
+    /** All that calls tell of the state, and what can be undone. */
+    static String whole() {
+        return picture() + " undo " + x.count(7);
+    }
+
+    /** All that calls tell of the state, but for THE TEXT, THE ROW, what can be undone and what is kept. */
     static String picture() {
         StringBuilder all = new StringBuilder();
         for (int o = 0; o < 8; o++) {
@@ -167,7 +172,7 @@ abstract class Edges {
             }
         }
         all.append(" sum ").append(sum());
-        for (int what = 2; what < 8; what++) {
+        for (int what = 2; what < 7; what++) {
             all.append(" count ").append(x.count(what));
         }
         return all.toString();

@@ -55,13 +55,13 @@ public final class RefusedTest extends Edges {
     private static void refused(String name, long due, Call call) {
         edge(TERMS, REFUSED, () -> {
             scene();
-            String before = picture();
+            String before = whole();
             told();
             x.say("SIX");
             is(name, call.on(), due);
             is("signs behind " + name, x.count(9), 3);
             is("THE TEXT behind " + name, x.named(), SIX);
-            is("as it was behind " + name, picture().equals(before), true);
+            is("as it was behind " + name, whole().equals(before), true);
         });
         edge(TERMS, ROW_STAYS, () -> {
             scene();
@@ -197,14 +197,14 @@ public final class RefusedTest extends Edges {
         edge(TERMS, REFUSED, () -> {
             scene();
             rule("7");
-            String before = picture();
+            String before = whole();
             told();
             x.say(text);
             is(name + " of " + text, call.on(), due);
             is("signs behind it", x.count(9), 0);
             is("an empty name", x.named(), 0);
             toldStays();
-            is("as it was", picture().equals(before), true);
+            is("as it was", whole().equals(before), true);
             is("THE RULE", x.owner(0, 5), 7);
         });
     }
@@ -237,11 +237,11 @@ public final class RefusedTest extends Edges {
         edge(TERMS, REFUSED, () -> {
             scene();
             is("again", x.again(1), true);
-            String before = picture();
+            String before = whole();
             told();
             is("nothing to undo", x.undo(), NONE);
             toldStays();
-            is("as it was", picture().equals(before), true);
+            is("as it was", whole().equals(before), true);
         });
         edge(TERMS, ROW_STAYS, () -> {
             begun(1);
@@ -289,12 +289,12 @@ public final class RefusedTest extends Edges {
         edge(TERMS, QUESTIONS, () -> {
             scene();
             x.say("SIX");
-            String before = picture();
+            String before = whole();
             is(name, call.on(), due);
-            is("as it was behind " + name, picture().equals(before), true);
+            is("as it was behind " + name, whole().equals(before), true);
             is("THE TEXT behind " + name, x.named(), SIX);
             is("what was kept, behind " + name, x.again(1), true);
-            is("as it was kept, behind " + name, picture().equals(before.replace("count 10", "count 0")), true);
+            is("as it was kept, behind " + name, whole().equals(before.replace("undo 10", "undo 0")), true);
         });
     }
 
@@ -334,25 +334,25 @@ public final class RefusedTest extends Edges {
             int k = seed;
             edge(TERMS, QUESTIONS, () -> {
                 scene();
-                String before = picture();
+                String before = whole();
                 is("years", x.years(k, 40) >= 0, true);
-                is("as it was", picture().equals(before), true);
+                is("as it was", whole().equals(before), true);
             });
         }
         edge(TERMS, QUESTIONS, () -> {
             scene();
             rule("i");
-            String before = picture();
+            String before = whole();
             is("law", law("0-i"), 1);
-            is("as it was", picture().equals(before), true);
+            is("as it was", whole().equals(before), true);
             is("THE RULE", x.owner(5, 5), 5);
             is("victim", x.victim(), 0);
         });
         edge(TERMS, QUESTIONS, () -> {
             scene();
-            String before = picture();
+            String before = whole();
             is("named", named("U"), U);
-            is("as it was", picture().equals(before), true);
+            is("as it was", whole().equals(before), true);
         });
     }
 

@@ -168,6 +168,25 @@ public final class TermsTest extends Edges {
                 row(X, 1);
             }
         });
+        edge(TERMS, "BOTH of two modes: the weakest that is as strong as each", () -> {
+            boolean[][] strong = new boolean[7][7];
+            int[][] both = new int[7][7];
+            for (int a = 0; a <= X; a++) {
+                for (int b = 0; b <= X; b++) {
+                    x.modes(a, b);
+                    both[a][b] = (int) x.row(0);
+                    strong[a][b] = x.row(1) == 1;
+                }
+            }
+            for (int a = 0; a <= X; a++) {
+                for (int b = 0; b <= X; b++) {
+                    for (int m = 0; m <= X; m++) {
+                        boolean each = strong[m][a] && strong[m][b];
+                        is(m + " is as strong as " + a + " and " + b, strong[m][both[a][b]], each);
+                    }
+                }
+            }
+        });
         edge(TERMS, "the weakest that is as strong as each (IX and S: SIX; IX or SIX and U: X).", () -> {
             int[] one = {IX, S, IX, U, SIX, U, S, IS, SIX, 0};
             int[] other = {S, IX, U, IX, U, SIX, U, S, IX, U};
@@ -297,6 +316,9 @@ public final class TermsTest extends Edges {
             gets(0, 1, S);
             gets(1, 1, S);
             stuck(0, 1, IX, 1);
+            for (int o = 0; o < 8; o++) {
+                changes(o, (o + 1) % 8, (o + 2) % 8);
+            }
         });
         edge(TERMS, "w goes together with all that others hold there.", () -> {
             begun(1);
@@ -322,6 +344,9 @@ public final class TermsTest extends Edges {
             gets(1, 1, IS);
             stuck(1, 1, IX, 1);
             stuck(2, 1, IS, 1);
+            for (int o = 0; o < 8; o++) {
+                comers(o, (o + 1) % 8, (o + 2) % 8);
+            }
         });
         edge(TERMS, "Granted: it holds w, the STEP is done.", () -> {
             begun(1);
@@ -341,6 +366,37 @@ public final class TermsTest extends Edges {
             is("queue", x.queue(1), 1);
             row(1);
         });
+    }
+
+    /** Whoever they are: a COMER does not stop a CHANGE, another CHANGE does. */
+    private static void changes(int one, int other, int third) {
+        anew();
+        begun(8);
+        gets(one, 84, IS);
+        gets(other, 84, S);
+        stuck(third, 84, X, 84);
+        gets(one, 84, S);
+        anew();
+        begun(8);
+        gets(one, 84, IS);
+        gets(other, 84, IS);
+        gets(third, 84, IX);
+        stuck(other, 84, S, 84);
+        stuck(one, 84, IX, 84);
+    }
+
+    /** Whoever they are: one who holds nothing stands behind another one's REQUEST, and behind a mode that does not go with its own. */
+    private static void comers(int one, int other, int third) {
+        anew();
+        begun(8);
+        gets(other, 84, S);
+        stuck(third, 84, X, 84);
+        stuck(one, 84, S, 84);
+        is("ends", x.ends(other), 4);
+        held(third, 84, X);
+        held(one, 84, 0);
+        is("ends", x.ends(third), 4);
+        held(one, 84, S);
     }
 
     private static void locking() {
@@ -634,6 +690,18 @@ public final class TermsTest extends Edges {
             is("X is in another PAGE", x.gathers(0, 5), 2);
             row(S);
         });
+        edge(TERMS, "if at all PLACES BELOW where it holds something that is IS or S; else X.", () -> {
+            for (int place = 0; place <= 20; place++) {
+                for (int p = 0; p <= 84; p++) {
+                    anew();
+                    begun(1);
+                    gets(0, 4 * place + 1, S);
+                    gets(0, p, IX);
+                    is("saves(0, " + place + ")", x.saves(0, place) > 0, true);
+                    row(isBelow(p, place) ? X : p == place ? SIX : S, 1);
+                }
+            }
+        });
         edge(TERMS, "If no CHANGE is in the QUEUE of the PLACE and that goes together with all that others hold there, it holds it, and nothing"
             + " any more at PLACES BELOW;", () -> {
             begun(4);
@@ -664,6 +732,21 @@ public final class TermsTest extends Edges {
             row(X);
             is("nothing else", x.owner(0, 4), 1);
         });
+        edge(TERMS, "nothing any more at PLACES BELOW;", () -> {
+            for (int place = 0; place <= 20; place++) {
+                anew();
+                x.begins(7);
+                for (int p = 21; p <= 84; p++) {
+                    gets(7, p, IS);
+                }
+                int below = place == 0 ? 84 : place <= 4 ? 20 : 4;
+                is("saves " + place, x.saves(7, place), below);
+                is("gathers at " + place, x.gathers(7, place), below);
+                for (int p = 0; p <= 84; p++) {
+                    held(7, p, p == place ? S : isBelow(p, place) ? 0 : IS);
+                }
+            }
+        });
         edge(TERMS, "each of these where it held something is served, by its number (likewise).", () -> {
             // Owner 0 goes from rows 21 and 22: row 21 is served first, 1 goes on and gathers, so that 2 at row 22 runs by that.
             begun(4);
@@ -684,9 +767,9 @@ public final class TermsTest extends Edges {
             gets(0, 21, S);
             gets(0, 22, S);
             gets(1, 5, IX);
-            String before = picture();
+            String before = whole();
             is("it can't be", x.gathers(0, 5), -4);
-            is("as it was", picture().equals(before), true);
+            is("as it was", whole().equals(before), true);
         });
         edge(TERMS, "(If it holds nothing BELOW, it can't be.)", () -> {
             begun(1);
@@ -696,6 +779,16 @@ public final class TermsTest extends Edges {
             is("something above it", x.gathers(0, 1), 1);
             row(S);
         });
+    }
+
+    private static boolean isBelow(int place, int other) {
+        for (int p = place; p > 0;) {
+            p = p <= 4 ? 0 : p <= 20 ? 1 + (p - 5) / 4 : 5 + (p - 21) / 4;
+            if (p == other) {
+                return true;
+            }
+        }
+        return false;
     }
 
     private static void waiting() {
@@ -949,6 +1042,19 @@ public final class TermsTest extends Edges {
             stuck(2, 1, IS, 1);
             is("where it held and waited", x.ends(0), 2);
             row(1);
+            for (int place : new int[] {0, 1, 4, 5, 20, 21, 84}) {
+                anew();
+                begun(8);
+                gets(7, place, X);
+                stuck(0, place, X, place);
+                stuck(6, place, X, place);
+                is("it held", x.ends(7) > 0, true);
+                row(1);
+                held(0, place, X);
+                is("it held", x.ends(0) > 0, true);
+                row(1);
+                held(6, place, X);
+            }
         });
     }
 
