@@ -798,13 +798,13 @@ public final class EdgeTest extends Edges {
             is("as it was ahead of " + name, picture().equals(before), true);
             is("how many began", x.count(2), 10);
             x.ends(5);
-            held(7, 84, U);
+            held(0, 84, U);
             is("the QUEUE at 21", x.queue(21), 2);
-            row(0, 6);
+            row(7, 6);
         });
     }
 
-    /** 7 waits at 84 for 5, 0 and 6 at 21 as CHANGES, 1 and 2 in a RING, 3 runs; 7 and 4 were felled, 4 is away. */
+    /** 0 waits at 84 for 5, 7 and 6 at 21 as CHANGES, 1 and 2 in a RING, 3 runs; 7 and 4 were felled, 4 is away. */
     private static void eight() {
         begun(8);
         ring(6, 7);
@@ -815,7 +815,7 @@ public final class EdgeTest extends Edges {
         ring(3, 4);
         x.fells();
         gets(0, 53, IS);
-        gets(0, 21, IX);
+        gets(7, 21, IX);
         gets(3, 21, IX);
         gets(6, 21, IX);
         gets(5, 84, X);
@@ -823,8 +823,8 @@ public final class EdgeTest extends Edges {
         gets(3, 38, S);
         x.works(7, 4);
         ring(1, 2);
-        stuck(7, 84, U, 84);
-        stuck(0, 21, S, 21);
+        stuck(0, 84, U, 84);
+        stuck(7, 21, S, 21);
         stuck(6, 21, S, 21);
     }
 
@@ -1867,23 +1867,32 @@ public final class EdgeTest extends Edges {
             String before = picture();
             x.ends(7);
             x.begins(7);
-            x.works(7, 9);
             gets(7, 61, X);
+            gets(3, 62, X);
+            stuck(3, 61, S, 61);
+            stuck(7, 62, S, 62);
+            rule("0-i");
+            is("two of two RINGS", x.fells(), 2);
+            row(7, 2);
+            rule("");
+            is("FALLS", x.owner(7, 3), 2);
+            x.begins(7);
+            x.works(7, 9);
             stuck(7, 37, X, 37);
             x.ends(0);
-            x.ends(6);
             x.begins(0);
-            x.begins(6);
-            x.fells();
-            is("FALLS", x.count(6), 3);
+            stuck(0, 37, IS, 37);
             is("it is not as it was", picture().equals(before), false);
             is("again", x.again(2), true);
             is("as it was", picture().equals(before), true);
             is("the QUEUE at 21", x.queue(21), 2);
-            row(0, 6);
+            row(7, 6);
             x.ends(5);
-            held(7, 84, U);
+            held(0, 84, U);
             is("begins", x.begins(4), 11);
+            x.ends(3);
+            x.ends(6);
+            held(7, 21, SIX);
         });
     }
 

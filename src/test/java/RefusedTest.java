@@ -16,6 +16,7 @@ public final class RefusedTest extends Edges {
         refusedQuestions();
         refusedOwners();
         refusedTexts();
+        reading();
         refusedWithout();
         noneFirst();
         throwing();
@@ -231,6 +232,27 @@ public final class RefusedTest extends Edges {
             x.end(39);
             is("its signs are as they were", x.rule(), 0);
         });
+    }
+
+    /** Not refused, it empties THE TEXT, too. */
+    private static void reads(String name, String text, long due, Call call) {
+        edge(TERMS, "THE TEXT, which a call that reads it empties.", () -> {
+            x.say(text);
+            is(name, call.on(), due);
+            is("signs behind " + name, x.count(9), 0);
+            is("signs", x.sign('U' << 24), 4);
+            x.end(1);
+            is("none of them is left", x.named(), U);
+        });
+    }
+
+    private static void reading() {
+        reads("rule()", "w*7", 0, () -> x.rule());
+        reads("named()", "SIX", SIX, () -> x.named());
+        reads("day()", "b0w09", 2, () -> x.day());
+        reads("day() of which one is refused", "b0b0", 1, () -> x.day());
+        reads("day() of which the first is refused", "e0", 0, () -> x.day());
+        reads("law()", "w*7", 8, () -> x.law());
     }
 
     private static void refusedWithout() {

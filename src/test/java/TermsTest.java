@@ -494,6 +494,13 @@ public final class TermsTest extends Edges {
                 held(1, 5, IX);
                 held(1, 21, U);
                 is("it waits no more", stands(1), 1);
+                anew();
+                begun(2);
+                gets(0, at, X);
+                stuck(1, at, U, at);
+                is("unlocks", x.unlocks(0, at), 1);
+                held(1, at, U);
+                is("it was the last STEP", x.holds(1, at), 1);
             }
         });
     }
@@ -552,12 +559,12 @@ public final class TermsTest extends Edges {
             x.bulk(2);
             gets(0, 5, SIX);
             gets(1, 21, IS);
-            gets(2, 22, IS);
             stuck(1, 22, IX, 5);
             stuck(2, 23, IX, 5);
             is("both are granted ahead of that", x.unlocks(0, 5), 2);
             held(1, 5, IX);
             held(1, 22, IX);
+            held(2, 23, IX);
         });
         edge(TERMS, "each one's going on, with all that comes of it (GATHERING, PLACES that are served, who goes on by that), is done ahead of the"
             + " next one's.", () -> {
